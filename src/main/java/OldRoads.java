@@ -49,7 +49,7 @@ public final class OldRoads {
     private final Land[] eras = new Land[MOST_ERAS];
     private int eraCount;
     private final Row tape = new Row(MOST_BYTES);
-    private final GoerReader reader = new GoerReader(tape);
+    private final GoerReader reader = new GoerReader();
     private final Goer[] goers = new Goer[MOST_GOERS];
     private int goerCount;
     // One more than there may be: the one behind the last is the draft that a text is read into.
@@ -61,7 +61,7 @@ public final class OldRoads {
     private final Row knownLines = new Row(MOST_KNOWN);
     private final Row fieldSides = new Row(MOST_FIELDS * 4);
     private final Ways ways = new Ways();
-    private final Sight sight = new Sight(land);
+    private final Sight sight = new Sight();
     private final Finds finds = new Finds();
     private final Pits pits = new Pits();
     private final Feet walkers = new Feet();
@@ -131,7 +131,7 @@ public final class OldRoads {
 
     public int fault(int sort) {
         if (sort == GOER) {
-            return reader.reads() ? NONE : reader.at;
+            return reader.reads(tape) ? NONE : reader.at;
         }
         if (sort == BOOK) {
             return books[bookCount].reads(tape, towns.size) ? NONE : books[bookCount].at;
@@ -140,7 +140,7 @@ public final class OldRoads {
     }
 
     public int text(int sort) {
-        if (sort == GOER && goerCount < MOST_GOERS && reader.reads()) {
+        if (sort == GOER && goerCount < MOST_GOERS && reader.reads(tape)) {
             goers[goerCount].take(reader.draft);
             goerCount++;
             tape.cut(0);
@@ -203,7 +203,7 @@ public final class OldRoads {
         if (!isCell(one) || !isCell(other) || one == other) {
             return NONE;
         }
-        return sight.isSeen(one, other) ? 1 : 0;
+        return sight.isSeen(land, one, other) ? 1 : 0;
     }
 
     public int sights(int from, int to, int far, int i) {
@@ -737,7 +737,7 @@ public final class OldRoads {
         if (!isCell(from) || !isCell(to) || far < 1 || far > MOST_SIGHT) {
             return false;
         }
-        return sight.countHops(from, to, far) && sight.layHops(from, to, far);
+        return sight.countHops(land, from, to, far) && sight.layHops(land, from, to, far);
     }
 
     private int keepLine(Row cells) {
@@ -1129,15 +1129,12 @@ public final class OldRoads {
         private static final int DEEPEST = 6;
         private static final int MOST_DIGITS = 4;
 
-        private final Row tape;
         private final Goer draft = new Goer();
+        private Row tape = new Row(0);
         private int at;
 
-        GoerReader(Row tape) {
-            this.tape = tape;
-        }
-
-        boolean reads() {
+        boolean reads(Row bytes) {
+            tape = bytes;
             at = 0;
             draft.size = 0;
             skipBlanks();
@@ -1426,6 +1423,8 @@ public final class OldRoads {
         private final int[] sumsFrom = new int[CELLS];
         private final int[] open = new int[CELLS];
         private int openSize;
+        private final int[] heights = new int[CELLS];
+        private final int[] grounds = new int[CELLS];
         private final int[] letters = new int[8];
         // PAIN by kind of STEP, 0 where none is told yet: most STEPS of a LAND are of few kinds.
         private final int[] painOfKind = new int[KINDS];
@@ -1451,21 +1450,20 @@ public final class OldRoads {
                 wet = newWet;
                 Arrays.fill(painOfKind, 0);
             }
+            for (int cell = 0; cell < CELLS; cell++) {
+                heights[cell] = land.told(cell, 0);
+                grounds[cell] = land.told(cell, 1) + 2 * land.told(cell, 2) + 4 * land.told(cell, 3);
+            }
             for (int step = 0; step < tolls.length; step++) {
-                if (beside[step] != NONE) {
-                    tolls[step] = painOf(kindOf(land, step));
+                int to = beside[step];
+                if (to != NONE) {
+                    int rise = heights[to] - heights[step / DIRECTIONS];
+                    tolls[step] = painOf(((rise + MOST_HEIGHT) * 8 + grounds[to]) * 2 + (step & 1));
                 }
             }
         }
 
-        /** What PAIN looks at: how much higher or lower, WATER, WOOD, MARSH, SLANT, in one number. */
-        private int kindOf(Land land, int step) {
-            int to = beside[step];
-            int rise = land.told(to, 0) - land.told(step / DIRECTIONS, 0);
-            int ground = land.told(to, 1) + 2 * land.told(to, 2) + 4 * land.told(to, 3);
-            return ((rise + MOST_HEIGHT) * 8 + ground) * 2 + (step & 1);
-        }
-
+        /** A kind tells all that PAIN looks at: how much higher, WATER, WOOD, MARSH and SLANT. */
         private int painOf(int kind) {
             if (kind < 0 || kind >= KINDS || goer == null) {
                 return 1;
@@ -1595,17 +1593,12 @@ public final class OldRoads {
 
     /** Which CELLS see one another, and the fewest hops by sight. */
     private static final class Sight {
-        private final Land land;
         private final int[] hops = new int[CELLS];
         private final int[] queue = new int[CELLS];
         private final Row row = new Row(CELLS);
         private final Row traced = new Row(LONGEST_LINE);
 
-        Sight(Land land) {
-            this.land = land;
-        }
-
-        boolean isSeen(int one, int other) {
+        boolean isSeen(Land land, int one, int other) {
             int n = apart(one, other);
             int height = land.told(one, 0);
             int otherHeight = land.told(other, 0);
@@ -1637,7 +1630,7 @@ public final class OldRoads {
         }
 
         /** Counts hops back from the end, until the start is reached; false, if it never is. */
-        boolean countHops(int from, int to, int far) {
+        boolean countHops(Land land, int from, int to, int far) {
             Arrays.fill(hops, NONE);
             hops[to] = 0;
             queue[0] = to;
@@ -1645,7 +1638,7 @@ public final class OldRoads {
             for (int head = 0; head < size && hops[from] == NONE; head++) {
                 int cell = queue[head];
                 for (int other = 0; other < CELLS; other++) {
-                    if (hops[other] == NONE && size < CELLS && isHop(other, cell, far)) {
+                    if (hops[other] == NONE && size < CELLS && isHop(land, other, cell, far)) {
                         hops[other] = hops[cell] + 1;
                         queue[size] = other;
                         size++;
@@ -1656,24 +1649,24 @@ public final class OldRoads {
         }
 
         /** Lays the row of hops by what was counted; false, if it ends too early. */
-        boolean layHops(int from, int to, int far) {
+        boolean layHops(Land land, int from, int to, int far) {
             row.cut(0);
             int cell = from;
             row.add(cell);
             for (int i = 0; i < CELLS && cell != to && cell != NONE; i++) {
-                cell = nextHop(cell, far);
+                cell = nextHop(land, cell, far);
                 row.add(cell);
             }
             return cell == to;
         }
 
-        private boolean isHop(int from, int to, int far) {
-            return apart(from, to) <= far && isSeen(from, to);
+        private boolean isHop(Land land, int from, int to, int far) {
+            return apart(from, to) <= far && isSeen(land, from, to);
         }
 
-        private int nextHop(int cell, int far) {
+        private int nextHop(Land land, int cell, int far) {
             for (int other = 0; other < CELLS; other++) {
-                if (hops[other] != NONE && hops[other] == hops[cell] - 1 && isHop(cell, other, far)) {
+                if (hops[other] != NONE && hops[other] == hops[cell] - 1 && isHop(land, cell, other, far)) {
                     return other;
                 }
             }

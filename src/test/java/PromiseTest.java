@@ -230,7 +230,7 @@ public final class PromiseTest {
         String[] good = {"y:1", "y:1234", "y:0000", " y : 1 ", "y:u;y:d;y:w;y:f;y:m;y:s;y:g;y:t", "y:[1]", "y:[[[[[[1]]]]]]",
             "y:u>1?2", "y:u + 1 * 2 / 3 - 4", "y:!u=1?2", "y:!!!!!!u=1?2", "y:((((((u=1))))))?2", "y:(u=1)&(d=1)|w<2?2",
             "y:u=1|d=1&w=1|f=1?2", "y:!(u=1|d=1)?2", "y:[u]=[d]?2", "y:u=1?2;y:3", "y:u+1>2*d?[w]", "y:!([[[[u]]]]=1)?2",
-            "y:!!!(![u]=1)?2", "y:!u=1&!!!!!!d=1?2"};
+            "y:!!!(![u]=1)?2", "y:!u=1&!!!!!!d=1?2", "y:u=1?[[[[[[1]]]]]]", "y:((((([u]=1)))))?2", "y:u=[[[[[[1]]]]]]?2"};
         for (String text : good) {
             feed(x, text);
             due(text, NONE, x.fault(0));
@@ -241,7 +241,7 @@ public final class PromiseTest {
             "y:1^?2", "y:u=^", "y:u=1^", "y:u=1^;", "y:u=1^=1", "y:u=^=1", "y:u=1?^", "y:u=1?2^?3", "y:u=1?2^=3", "y:u=1?^!",
             "y:u=1?^(u", "y:(u^)?2", "y:(^", "y:(u=1^?2", "y:(u=1)^=2", "y:(u=1)^+2", "y:(u=1)^;", "y:!^", "y:!u^?1", "y:!u=1^",
             "y:!u=1^;", "y:!^;", "y:u=1&^", "y:u=1&^?", "y:u=1|^|", "y:u=1&^&", "y:u^!=1?2", "y:!!!!!!^!u=1?1", "y:((((((^(u",
-            "y:[[[[[[^[1", "y:!([^!", "y:!!!(((^[u]=1", "y:!!!(((u=^[1", "y:[[[[[[1]+2]+[[^",
+            "y:[[[[[[^[1", "y:u=1?[[[[[[^[1", "y:((((([^[u", "y:u=[[[[[[^[1", "y:!([^!", "y:!!!(((^[u]=1", "y:!!!(((u=^[1", "y:[[[[[[1]+2]+[[^",
             "y:1^.0", "y:^\t1", "^Y:1", "y:^U", "y:1^\377", "y:12^y:1", "y:u^&1",
             "y:u=1 &  ^?", "y:[u+1]*^/", "y:1;y^;", "y:1;y:^;"};
         for (String marked : bad) {
@@ -280,7 +280,7 @@ public final class PromiseTest {
             due(text, NONE, x.fault(1));
         }
         String[] bad = {"^", " ^", "^d1a", "^1", "a^", "a ^", "a^b", "a5^", "a5 ^", "a5^d", "a12^3b", "a1 ^2b", "a1b^c", "a1b2^",
-            "a1b 2 ^;", "a^-1b", "a1^B", "^A1b", "a1b23^4c"};
+            "a1b 2 ^;", "a^-1b", "^`1a", "a1^`", "a1^B", "^A1b", "a1b23^4c"};
         for (String marked : bad) {
             int fault = marked.indexOf('^');
             feed(x, marked.substring(0, fault) + marked.substring(fault + 1));
@@ -822,6 +822,13 @@ public final class PromiseTest {
         due("load 100", HIDDEN, x.off(0, 0, 0, 100, false));
         due("load -1", HIDDEN, x.off(0, 0, 0, -1, false));
         promise = 31;
+        OldRoads light = with("y:10+4*t+9000*g*m");
+        light.draw(5, 0, 5, 8, 3, 1);
+        light.town(0);
+        light.town(11);
+        due("book", 0, tell(light, 1, "a11b"));
+        due("without load", 1, light.holds(0, 0, 0));
+        due("with load", 11 - 22, light.off(0, 0, 0, 1, false));
         due("holds by 0", 2, x.holds(0, 0, 0));
         due("holds by 4", 2, x.holds(0, 0, 4));
         due("holds by 5", 3, x.holds(0, 0, 5));
@@ -891,6 +898,35 @@ public final class PromiseTest {
         due("17 allowed", 3, x.slip(1, 0, 0, 0, false, 17));
         due("book", 2, tell(x, 1, "a16b"));
         due("something else", 3, x.slip(2, 0, 0, 0, false, 20));
+        int[][] rows = {{47, 74, 1}, {47, 42, 2}, {47, 57, 2}, {47, 48, 2}, {47, 83, 3}, {47, 7, 2}, {47, 4, 3}, {99, 90, 2},
+            {99, 9, 2}, {99, 11, 3}, {99, 99, 0}, {60, 6, 1}, {60, 0, 2}, {83, 38, 1}, {88, 89, 2}, {25, 52, 1}};
+        for (int[] row : rows) {
+            OldRoads down = downTheRows(0, row[0]);
+            due("book", 0, tell(down, 1, "a" + row[1] + "b"));
+            due("MILES of so many STEPS", row[1] - row[0], down.off(0, 0, 0, 0, false));
+            due(row[1] + " for " + row[0], row[2], down.slip(0, 0, 0, 0, false, 0));
+        }
+        OldRoads hundred = downTheRows(3, 99);
+        due("book", 0, tell(hundred, 1, "a90b1a"));
+        due("99 STEPS, three SLANT", 90 - 100, hundred.off(0, 0, 0, 0, false));
+        due("above 99", 3, hundred.slip(0, 0, 0, 0, false, 0));
+    }
+
+    /** Each CELL one lower than the one before: east, west, east; the first corners are cut by a SLANT STEP. */
+    private static OldRoads downTheRows(int cuts, int steps) {
+        OldRoads x = with("y:d=1?1;y:9999");
+        int made = 0;
+        for (int y = 0; y < 10; y++) {
+            for (int i = 0; i < (y < cuts ? 11 : 12) && made < 100; i++) {
+                int column = y % 2 == 0 ? i : 11 - i;
+                x.draw(column, y, column, y, 0, 99 - made);
+                if (made == 0 || made == steps) {
+                    x.town(cell(column, y));
+                }
+                made++;
+            }
+        }
+        return x;
     }
 
     // ---- worlds, fields, hedges
@@ -997,6 +1033,7 @@ public final class PromiseTest {
         due("one TOWN", NONE, x.dig(0, 0, 1));
         due("town 2", NONE, x.dig(0, 2, 1));
         due("town -1", NONE, x.dig(-1, 1, 1));
+        digTies();
         // PITS 1 and 4 with 2 and 3: of four sets alike 1, 2 is the first, though 1, 3 and 4 part as much.
         OldRoads z = with(PLAIN, "y:10+4*t+50*m", "y:10+4*t+50*f");
         z.town(0);
@@ -1007,6 +1044,49 @@ public final class PromiseTest {
             z.pit(cell);
         }
         due("0 and 4 ahead of 3 and 4 and of 0 and 5", 1 | 16, z.dig(0, 1, 6));
+    }
+
+    /** WORLDS whose WAYS have the PITS of these bits, along a row; each PIT has a ground of its own to be shunned. */
+    private static int dug(int[] shown, int[] weights, int pits, int many) {
+        OldRoads x = new OldRoads();
+        x.town(0);
+        x.town(11);
+        for (int p = 0; p < pits; p++) {
+            int column = 2 * p + 1;
+            for (int what = 1; what < 4; what++) {
+                x.draw(column, 0, column, 0, what, (p + 1) >> (what - 1) & 1);
+            }
+            x.pit(column);
+        }
+        for (int w = 0; w < shown.length; w++) {
+            StringBuilder text = new StringBuilder();
+            for (int p = 0; p < pits; p++) {
+                if ((shown[w] >> p & 1) == 0) {
+                    text.append(text.length() == 0 ? "y:" : "|").append("w+2*f+4*m=").append(p + 1);
+                }
+            }
+            due("a WORLD", w, tell(x, 0, text + (text.length() == 0 ? "" : "?60;") + "y:10"));
+            x.weigh(w, weights[w]);
+            for (int p = 0; p < pits; p++) {
+                due("no load, not WET", (shown[w] >> p & 1) == 1 ? 2 * p + 1 : 12 + 2 * p + 1, x.way(w, 0, false, 0, 11, 2 * p + 1));
+            }
+        }
+        return x.dig(0, 1, many);
+    }
+
+    private static void digTies() {
+        int[] shown = {3, 14, 4, 11, 7, 0};
+        int[] weights = {4, 2, 4, 7, 2, 6};
+        due("0 3 ahead of 1 2 and 2 3", 1 | 8, dug(shown, weights, 4, 2));
+        shown = new int[] {14, 22, 24, 13, 19, 7};
+        weights = new int[] {5, 1, 5, 4, 8, 3};
+        due("0 1 4 ahead of 0 2 3 and 0 3 4", 1 | 2 | 16, dug(shown, weights, 5, 3));
+        shown = new int[] {1, 11, 11, 8, 4, 4};
+        weights = new int[] {3, 3, 9, 3, 9, 4};
+        due("0 3 ahead of 0 1 2 and others", 1 | 8, dug(shown, weights, 4, 3));
+        shown = new int[] {10, 18, 19, 19, 18, 7};
+        weights = new int[] {8, 4, 6, 3, 5, 3};
+        due("0 4 ahead of 0 2 3 and others", 1 | 16, dug(shown, weights, 5, 3));
     }
 
     private static void fields() {
@@ -1225,6 +1305,14 @@ public final class PromiseTest {
         due("there", there, x.trodden(13));
         due("back", 20 - there, x.trodden(37));
         promise = 46;
+        OldRoads y = with("y:5");
+        y.town(0);
+        y.town(119);
+        y.feet(0, 0, false, 3, 1, 0);
+        hand(y, 1, "6");
+        hand(y, 118, "2");
+        due("the first CELL of the LAND", 1 + (y.trodden(1) > 0 ? 1 : 0), y.alike(0, 1));
+        due("the last CELL of the LAND", 1 + (y.trodden(118) > 0 ? 1 : 0), y.alike(1, 1));
         hand(x, 24, "1357");
         hand(x, 24, "2266");
         due("round", 4, x.alike(0, 1));

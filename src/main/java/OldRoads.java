@@ -1001,7 +1001,7 @@ public final class OldRoads {
         private final int[][] layers = new int[LAYERS][CELLS];
 
         int told(int cell, int what) {
-            return isCell(cell) && isLayer(what) ? layers[what][cell] : 0;
+            return what >= 0 && what < LAYERS && cell >= 0 && cell < CELLS ? layers[what][cell] : 0;
         }
 
         void put(int cell, int what, int v) {
@@ -1332,7 +1332,7 @@ public final class OldRoads {
         }
 
         private void skipBlanks() {
-            while (at < tape.size && tape.at(at) == ' ') {
+            while (at < tape.size && tape.items[at] == ' ') {
                 at++;
             }
         }
@@ -1413,7 +1413,8 @@ public final class OldRoads {
     private static final class Ways {
         // A sum counts PAIN in units of this and STEPS in ones, so that one comparison looks at both.
         private static final int UNIT = 128;
-        private static final int FARTHEST = Integer.MAX_VALUE;
+        // Far above any sum, so that nothing added to it goes round.
+        private static final int FARTHEST = 1 << 30;
         private static final int MOST_PAIN = 10000;
         private static final int KINDS = 199 * 16;
 
@@ -1892,6 +1893,9 @@ public final class OldRoads {
 
     /** What roads between TOWNS cost, and the NETS with the least cost. */
     private static final class Net {
+        // Far above the PAINS of any WAY.
+        private static final int TOO_MUCH = 1 << 30;
+
         private final int[][] costs = new int[MOST_TOWNS][MOST_TOWNS];
         private int towns;
 
@@ -1911,9 +1915,9 @@ public final class OldRoads {
             int sum = 0;
             for (int i = 1; i < towns; i++) {
                 int best = NONE;
-                int least = Integer.MAX_VALUE;
+                int least = TOO_MUCH;
                 for (int b = 0; b < towns; b++) {
-                    int cost = (joined >> b & 1) == 1 ? Integer.MAX_VALUE : costTo(b, joined);
+                    int cost = (joined >> b & 1) == 1 ? TOO_MUCH : costTo(b, joined);
                     if (cost < least) {
                         best = b;
                         least = cost;
@@ -1928,7 +1932,7 @@ public final class OldRoads {
         }
 
         private int costTo(int b, int joined) {
-            int least = Integer.MAX_VALUE;
+            int least = TOO_MUCH;
             for (int a = 0; a < towns; a++) {
                 if ((joined >> a & 1) == 1) {
                     least = Math.min(least, costs[a][b]);

@@ -9,7 +9,7 @@ import java.util.regex.Pattern;
 public final class RulesTest {
     private static final String[] NEVER = {"->", "::", "\\bcatch\\b", "\\btry\\b", "\\bfinally\\b", "\\bassert\\b", "\\bsynchronized\\b",
         "\\binstanceof\\b", "\\bstatic\\s*\\{", "\\bgoto\\b", "\\bequals\\b", "\\bhashCode\\b", "\\btoString\\b", "\\brecord\\b", "\\bdouble\\b",
-        "\\bfloat\\b", "\\bString\\b", "\\bInteger\\.(?!bitCount\\b|MAX_VALUE\\b)", "\\w+Exact\\b", "\\bRandom\\b", "\\bSystem\\.(?!arraycopy\\b)",
+        "\\bfloat\\b", "\\bString\\b", "\\bInteger\\.(?!bitCount\\b)", "\\w+Exact\\b", "\\bRandom\\b", "\\bSystem\\.(?!arraycopy\\b)",
         "\\bMath\\.(?!abs\\b|max\\b|min\\b|floorDiv\\b)", "\\bArrays\\.(?!fill\\b)", "\\bThread\\b", "\\bObject\\b", "\\blong\\s*\\[", "\\bpackage\\b",
         "\\bprotected\\b", "\\?\\?", "\\bwhile\\s*\\(true", "for\\s*\\(\\s*;\\s*;"};
 

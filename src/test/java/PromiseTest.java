@@ -1075,8 +1075,13 @@ public final class PromiseTest {
     }
 
     private static void digTies() {
-        int[] shown = {3, 14, 4, 11, 7, 0};
-        int[] weights = {4, 2, 4, 7, 2, 6};
+        int[] shown = {3, 1, 2, 0};
+        int[] weights = {1, 1, 2, 0};
+        // 0 alone 4 + 4, 1 alone 9 + 1, both 1 + 1 + 4 + 0: how many apart does not count.
+        due("0 1 ahead of 0", 3, dug(shown, weights, 2, 2));
+        due("0 alone", 1, dug(shown, weights, 2, 1));
+        shown = new int[] {3, 14, 4, 11, 7, 0};
+        weights = new int[] {4, 2, 4, 7, 2, 6};
         due("0 3 ahead of 1 2 and 2 3", 1 | 8, dug(shown, weights, 4, 2));
         shown = new int[] {14, 22, 24, 13, 19, 7};
         weights = new int[] {5, 1, 5, 4, 8, 3};

@@ -2,11 +2,13 @@ import java.lang.reflect.Constructor;
 import java.lang.reflect.Field;
 import java.lang.reflect.Method;
 import java.lang.reflect.Modifier;
+import java.nio.file.Files;
+import java.nio.file.Path;
 import java.util.Arrays;
 import java.util.NoSuchElementException;
 import java.util.TreeSet;
 
-/** The public face is the document's, and nothing else can be seen from outside. */
+/** The public face is the document's, word by word, and nothing else can be seen from outside. */
 public final class FaceTest {
     private static final String[] METHODS = {
         "boolean draw int int int int int int", "int drawn int int", "int town int",
@@ -26,7 +28,7 @@ public final class FaceTest {
         "int alike int int", "int era", "int bring int", "int changed int",
         "int then int int int boolean int int int", "int lasting int int boolean int int", "int count int"};
 
-    public static void main(String[] args) {
+    public static void main(String[] args) throws Exception {
         Checks checks = new Checks("FaceTest");
         Class<?> face = OldRoads.class;
         checks.due("public and final", Modifier.PUBLIC | Modifier.FINAL, face.getModifiers());
@@ -57,25 +59,60 @@ public final class FaceTest {
                 checks.yes(inner + " " + m.getName() + " bears no public name", !names.contains(m.getName()));
             }
         }
+        asWritten(checks);
         checks.end();
     }
 
+    /** Each line of the document's face stands in the program, with its names, and no other line there begins with public. */
+    private static void asWritten(Checks checks) throws Exception {
+        String document = Files.readString(Path.of("../shared/DOC.md"));
+        int from = document.indexOf("```java\n", document.indexOf("## The public face")) + "```java\n".length();
+        String[] face = document.substring(from, document.indexOf("```", from)).split("\n");
+        TreeSet<String> lines = new TreeSet<>(Arrays.asList(Files.readString(Path.of("src/main/java/OldRoads.java")).split("\n")));
+        TreeSet<String> wanted = new TreeSet<>();
+        for (String line : face) {
+            if (line.startsWith("    public ")) {
+                boolean constant = line.contains(" = ");
+                wanted.add(constant ? line : line.replaceAll(";$", " {"));
+            }
+        }
+        checks.due("constants, constructor and methods", 2 + 1 + METHODS.length, wanted.size());
+        for (String line : wanted) {
+            checks.yes("as written:" + line, lines.contains(line));
+        }
+        for (String line : lines) {
+            boolean known = wanted.contains(line) || line.equals("public final class OldRoads {");
+            checks.yes("public as in the document:" + line, known || !line.contains("public "));
+        }
+    }
+
     private static void fields(Checks checks, Class<?> face) {
-        int own = 0;
         for (Field f : face.getDeclaredFields()) {
             boolean constant = f.getName().equals("NONE") || f.getName().equals("HIDDEN");
             int modifiers = constant ? Modifier.PUBLIC | Modifier.STATIC | Modifier.FINAL : Modifier.PRIVATE;
             checks.yes(f.getName(), (f.getModifiers() & (Modifier.PUBLIC | Modifier.PRIVATE | Modifier.PROTECTED))
                 == (modifiers & (Modifier.PUBLIC | Modifier.PRIVATE)));
+        }
+        kept(checks, face);
+        for (Class<?> inner : face.getDeclaredClasses()) {
+            kept(checks, inner);
+        }
+        checks.due("NONE", -1, OldRoads.NONE);
+        checks.due("HIDDEN", -100000, OldRoads.HIDDEN);
+    }
+
+    /** Rule 5: static fields are constants; rule 11: some twenty others. */
+    private static void kept(Checks checks, Class<?> one) {
+        int own = 0;
+        for (Field f : one.getDeclaredFields()) {
             if (Modifier.isStatic(f.getModifiers())) {
-                checks.yes(f.getName() + " is final", Modifier.isFinal(f.getModifiers()));
+                boolean plain = f.getType() == int.class || f.getType() == int[].class;
+                checks.yes(one + " " + f.getName() + " is a constant", plain && Modifier.isFinal(f.getModifiers()));
             } else {
                 own++;
             }
         }
-        checks.yes("some twenty fields: " + own, own <= 20);
-        checks.due("NONE", -1, OldRoads.NONE);
-        checks.due("HIDDEN", -100000, OldRoads.HIDDEN);
+        checks.yes(one + " has some twenty fields: " + own, own <= 20);
     }
 
     private static String textOf(Method m) {

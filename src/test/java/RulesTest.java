@@ -11,7 +11,8 @@ public final class RulesTest {
         "\\binstanceof\\b", "\\bstatic\\s*\\{", "\\bgoto\\b", "\\bequals\\b", "\\bhashCode\\b", "\\btoString\\b", "\\brecord\\b", "\\bdouble\\b",
         "\\bfloat\\b", "\\bString\\b", "\\bInteger\\.(?!bitCount\\b)", "\\w+Exact\\b", "\\bRandom\\b", "\\bSystem\\.(?!arraycopy\\b)",
         "\\bMath\\.(?!abs\\b|max\\b|min\\b|floorDiv\\b)", "\\bArrays\\.(?!fill\\b)", "\\bThread\\b", "\\bObject\\b", "\\blong\\s*\\[", "\\bpackage\\b",
-        "\\bprotected\\b", "\\?\\?", "\\bwhile\\s*\\(true", "for\\s*\\(\\s*;\\s*;"};
+        "\\bprotected\\b", "\"", "\\b[A-Z][A-Z_]+\\[[^\\]]*\\]\\s*(?:[-+*/%|&^]|<<|>>>?)?=(?!=)",
+        "\\b[A-Z][A-Z_]+\\[[^\\]]*\\](?:\\+\\+|--)", "\\?\\?", "\\bwhile\\s*\\(true", "for\\s*\\(\\s*;\\s*;"};
 
     public static void main(String[] args) throws Exception {
         Checks checks = new Checks("RulesTest");
